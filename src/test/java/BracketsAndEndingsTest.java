@@ -53,6 +53,7 @@ public final class BracketsAndEndingsTest {
         spare(">L", "(3c4)a", 1);
         spare("<>", "a(3c)", 1);
         spare("<>", "(a3)c", 0);
+        spare("<>", "a3c", 0);
         spare("><", "(c3)a", 1);
         spare("><", "c(3a)", 0);
     }
